@@ -388,6 +388,10 @@ public final class PromisesTest {
         }
         dueRow(m, 0, 0, 3);
         dueRow(m, 1, 2, 3);
+        GridMender one = drawn(1, 0, "....");
+        one.mend();
+        due("seat(0, 8), the last COLUMN", one.seat(0, 8), 1);
+        due("seat(0, 16), one COLUMN too far", one.seat(0, 16), -2);
     }
 
     private static void column() {
