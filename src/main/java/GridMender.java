@@ -959,7 +959,8 @@ public final class GridMender {
             for (int y = board.height - 1; y >= 0; y--) {
                 addMovesOfRow(y, laid.seatOrFirst(y, board.wish));
             }
-            return moves[cheapest(0, rowSeats[0])];
+            int place = cheapest(0, rowSeats[0]);
+            return place == NONE ? NONE : moves[place];
         }
 
         private void addMovesOfRow(int y, int seatNow) {

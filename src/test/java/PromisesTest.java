@@ -1,3 +1,5 @@
+import java.util.function.Supplier;
+
 /** One method for each promise of the document: ordinary inputs, the edges it names, wrong inputs. */
 public final class PromisesTest {
     private static final int NULL = -11, INDEX = -12, CAST = -13, STORE = -14, SIZE = -15;
@@ -856,33 +858,56 @@ public final class PromisesTest {
 
     private static void digest() {
         promise = 34;
-        GridMender fresh = new GridMender();
-        due("digest() of a new object", fresh.digest(), told(fresh));
-        GridMender m = drawn(3, 1, ".#...", "...#.", "#....");
-        due("digest()", m.digest(), told(m));
+        dueDigest("of a new object", GridMender::new);
+        dueDigest("of faults", PromisesTest::faulted);
+        dueDigest("with SLOTS", PromisesTest::slotted);
+        dueDigest("not WHOLE", PromisesTest::hopeless);
+        dueDigest("with SLOTS of another WISH", () -> {
+            GridMender m = hopeless();
+            m.wish(2);
+            return m;
+        });
+        dueDigest("of 7 by 7", () -> {
+            GridMender m = hopeless();
+            m.grid(7, 7);
+            m.sides(15);
+            m.lots(99, 4);
+            m.mend();
+            return m;
+        });
+        GridMender m = slotted();
+        long before = m.digest();
+        m.go(9);
+        due("digest() leaves the latest FINDING out", m.digest(), before);
+        due("count(8): digest() makes no FINDING", m.count(8), 2);
+    }
+
+    private static GridMender faulted() {
+        return drawn(3, 1, ".#...", "...#.", "#....");
+    }
+
+    private static GridMender slotted() {
+        GridMender m = faulted();
         m.mend();
         m.keep(0);
         m.keep(4);
         m.seat(1, 22);
         m.keep(2);
-        due("digest() with SLOTS", m.digest(), told(m));
-        long before = m.digest();
-        m.go(9);
-        due("digest() leaves the latest FINDING out", m.digest(), before);
+        return m;
+    }
+
+    private static GridMender hopeless() {
+        GridMender m = slotted();
         m.lots(4, 9);
-        due("digest(), not WHOLE", m.digest(), told(m));
-        m.wish(2);
-        due("digest() with SLOTS of another WISH", m.digest(), told(m));
-        m.go(9);
-        m.digest();
-        due("count(8): digest() makes no FINDING", m.count(8), 2);
-        m.grid(7, 7);
-        m.sides(15);
-        m.lots(99, 4);
-        m.mend();
-        due("digest() of 7 by 7", m.digest(), told(m));
-        m.digest();
-        due("digest() changes nothing", m.digest(), told(m));
+        return m;
+    }
+
+    /** Of two objects made alike, since one would have more than the 512 calls of which the answers are told. */
+    private static void dueDigest(String which, Supplier<GridMender> maker) {
+        GridMender m = maker.get();
+        long want = told(maker.get());
+        due("digest() " + which, m.digest(), want);
+        due("digest() " + which + " again", m.digest(), want);
     }
 
     /** The digest by the other calls, as the document tells its order. */
