@@ -589,6 +589,10 @@ final class SheetEdges extends Told {
         return m;
     }
 
+    static long digestByParts(GridMender m) {
+        return wrapped(allOf(m));
+    }
+
     private static long wrapped(List<Long> all) {
         return sumOf(all).longValue();
     }

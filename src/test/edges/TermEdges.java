@@ -323,6 +323,9 @@ final class TermEdges extends Told {
             GridMender seventh = drawn(1, 3, "...", "...", "...", "...", "...", "...", "#..");
             due("mend(), ROW 6", seventh.mend(), 1);
             dueRow(seventh, 6, 1);
+            for (int seed = 0; seed < 300; seed++) {
+                mendOfAllPlacings(seed);
+            }
         });
         sentence(TERMS, "It is LAID then.", () -> {
             GridMender m = drawn(1, 0, "#.", "..");
@@ -333,6 +336,37 @@ final class TermEdges extends Told {
             dueRow(m, 1, 1);
             due("cell(1, 1, 1)", m.cell(1, 1, 1), 0);
         });
+    }
+
+    /** By the words alone: every PLACING is set against every other. */
+    private static void mendOfAllPlacings(int seed) {
+        int h = 1 + seed % 4;
+        int w = 2 + seed % 5;
+        int wish = 1 + seed % Math.min(w, 3);
+        int length = seed / 4 % 3;
+        GridMender m = new GridMender();
+        m.grid(h, w);
+        m.wish(wish);
+        m.length(length);
+        if (seed % 3 != 0) {
+            m.mend();
+            for (int y = 0; y < h; y++) {
+                m.seat(y, (1 << wish) - 1 << (seed + y) % (w - wish + 1));
+            }
+        }
+        m.lots(seed, 2 + seed % 3);
+        AllPlacings placings = new AllPlacings(m, h, w, wish, length);
+        int[] mend = placings.mend();
+        due("whole() by all PLACINGS, " + seed, m.whole(), mend == null ? 0 : 1);
+        due("moves() by all PLACINGS, " + seed, m.moves(), mend == null ? NONE : placings.movesTo(mend));
+        due("mend() by all PLACINGS, " + seed, m.mend(), mend == null ? NOT : placings.movesTo(mend));
+        for (int y = 0; mend != null && y < h; y++) {
+            int bits = 0;
+            for (int j = 0; j < wish; j++) {
+                bits |= 1 << m.column(y, j);
+            }
+            due("SEAT of ROW " + y + " by all PLACINGS, " + seed, bits, mend[y]);
+        }
     }
 
     private static void slotsAndChanges() {
