@@ -1,19 +1,15 @@
-import java.io.IOException;
 import java.lang.management.ManagementFactory;
 import java.lang.reflect.Constructor;
 import java.lang.reflect.Field;
 import java.lang.reflect.Method;
 import java.lang.reflect.Modifier;
-import java.nio.file.Files;
-import java.nio.file.Path;
 import java.util.ArrayList;
 import java.util.Arrays;
 import java.util.List;
 import java.util.TreeSet;
 
-/** The face of the class, what LANGUAGE.md rules out, wild arguments, and that no call makes objects. */
+/** The face of the class, wild arguments, and that no call makes objects. */
 public final class RulesTest {
-    private static final String SOURCE = "src/main/java/GridMender.java";
     private static final String[] FACE = {
         "int broken()", "int cell(int,int,int)", "int chains()", "int column(int,int)", "int copy(int,int,int,int,int)",
         "int core()", "int count(int)", "int critical()", "int differ(int)", "int drop(int)", "int fault(int,int)",
@@ -27,7 +23,6 @@ public final class RulesTest {
 
     public static void main(String[] args) throws Exception {
         face();
-        source();
         wildArguments();
         noObjects();
         System.out.println("the rules, " + wrong + " broken");
@@ -77,42 +72,6 @@ public final class RulesTest {
         for (Method m : GridMender.class.getDeclaredMethods()) {
             boolean isPrivate = Modifier.isPrivate(m.getModifiers());
             say(!isPrivate || !names.contains(m.getName()), "the name of a public method: " + m);
-        }
-    }
-
-    private static void source() throws IOException {
-        String text = Files.readString(Path.of(SOURCE));
-        String code = text.replaceAll("(?s)/\\*.*?\\*/", "").replaceAll("//[^\n]*", "");
-        String[] out = {"throw", "throws", "try", "catch", "synchronized", "assert", "package", "hashCode", "toString",
-            "Object", "System.out", "Random", "Thread", "->", "::", "Exact", "protected", "volatile", "native"};
-        for (String word : out) {
-            boolean isWord = Character.isLetter(word.charAt(0));
-            String pattern = isWord ? "\\b" + java.util.regex.Pattern.quote(word) + "\\b" : java.util.regex.Pattern.quote(word);
-            say(!java.util.regex.Pattern.compile(pattern).matcher(code).find(), "ruled out: " + word);
-        }
-        for (String line : code.split("\n")) {
-            say(!line.startsWith("import ") || line.equals("import java.util.Arrays;"), "another import: " + line);
-            say(!line.contains("\t"), "a tab: " + line);
-        }
-        for (int i = 0; i < text.length(); i++) {
-            say(text.charAt(i) < 128, "a sign above 127 at " + i);
-        }
-        methodLengths(code);
-    }
-
-    private static void methodLengths(String code) {
-        String[] lines = code.split("\n");
-        for (int i = 0; i < lines.length; i++) {
-            String line = lines[i];
-            boolean opens = line.endsWith(") {") && !line.contains("if (") && !line.contains("for (") && !line.contains("switch");
-            if (opens) {
-                String end = line.substring(0, line.length() - line.stripLeading().length()) + "}";
-                int last = i;
-                while (last < lines.length && !lines[last].equals(end)) {
-                    last++;
-                }
-                say(last - i < 60, "a long method: " + line);
-            }
         }
     }
 
